@@ -12,9 +12,9 @@ public final class PlaneOverlay {
     private static final int GREATEST_DIVISOR = 1000;
     private static final int RESULTS = 4;
     private static final int MOST_EDGES = POLYGONS * MOST_VERTICES;
-    // An edge begins in one vertex, and a pair of edges gives one point at most.
+    // Every end is one in which an edge begins, and each pair of edges gives one point more at most.
     private static final int MOST_POINTS = MOST_EDGES + MOST_EDGES * (MOST_EDGES - 1) / 2;
-    // On an edge lie its two ends, and of each other edge at most two points: 24 points make 23 pieces.
+    // On an edge lie its two ends and at most two points for each other edge: 24 points make 23 pieces.
     private static final int MOST_PIECES = MOST_EDGES * (2 * MOST_EDGES - 1);
 
     private final int[][] vertexX;

@@ -248,6 +248,9 @@ public final class PlaneOverlayTest {
         dueSizes("corner on corner", laid(SQUARE, new int[] {4, 4, 8, 4, 8, 8}), 7, 6, 7, 3, 11);
         dueSizes("a cross of two lines", laid(new int[] {-2, 0, 2, 0}, new int[] {0, -2, 0, 2}), 4, 5, 4, 1, 6);
         dueSizes("two lines apart", laid(new int[] {-2, 0, 2, 0}, new int[] {-2, 1, 2, 1}), 4, 4, 2, 1, 2);
+        // The first edge of polygon 1 meets polygon 0 only over its neighbours: still one part.
+        int[] chain = {0, 0, 20, 0, 20, 9, 10, 9, 10, 1, 0, 1};
+        dueSizes("a chain", laid(chain, new int[] {25, 5, 25, 6, 15, 5}), 9, 11, 13, 4, 11);
         // The star's five edges: neighbours share a corner, all other pairs cross: 10 pairs, 5 + 5 points.
         int[] star = {0, 10, 6, -8, -10, 3, 10, 3, -6, -8};
         dueSizes("a star", laid(star, NOTHING), 5, 10, 15, 7, 10);
