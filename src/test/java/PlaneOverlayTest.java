@@ -2,111 +2,10 @@ import java.lang.reflect.Constructor;
 import java.lang.reflect.Method;
 import java.lang.reflect.Modifier;
 import java.util.Arrays;
-import java.util.NoSuchElementException;
 import java.util.TreeSet;
 
 /** Answers worked out by hand, promise by promise. */
-public final class PlaneOverlayTest {
-    private static final int LEAST = Integer.MIN_VALUE;
-    private static final int MOST = Integer.MAX_VALUE;
-    private static final Class<?> STATE = IllegalStateException.class;
-    private static final Class<?> ARGUMENT = IllegalArgumentException.class;
-    private static final Class<?> INDEX = IndexOutOfBoundsException.class;
-    private static final Class<?> ELEMENT = NoSuchElementException.class;
-
-    private static final int[] SQUARE = {0, 0, 4, 0, 4, 4, 0, 4};
-    private static final int[] MOVED_SQUARE = {2, 2, 6, 2, 6, 6, 2, 6};
-    private static final int[] NOTHING = {};
-
-    private static int wrong = 0;
-    private static int asked = 0;
-
-    private interface Call {
-        double answer();
-    }
-
-    private static void due(String what, double want, Call call) {
-        asked++;
-        try {
-            double got = call.answer();
-            if (Double.compare(got, want) != 0) {
-                wrong++;
-                System.out.println(what + " answered " + got + ", due is " + want);
-            }
-        } catch (RuntimeException e) {
-            wrong++;
-            System.out.println(what + " threw " + e + ", due is " + want);
-        }
-    }
-
-    private static void thrown(String what, Class<?> want, Call call) {
-        asked++;
-        try {
-            double got = call.answer();
-            wrong++;
-            System.out.println(what + " answered " + got + ", due is " + want);
-        } catch (RuntimeException e) {
-            if (e.getClass() != want) {
-                wrong++;
-                System.out.println(what + " threw " + e + ", due is " + want);
-            }
-        }
-    }
-
-    private static void put(PlaneOverlay x, int polygon, int[] at) {
-        for (int k = 0; k < at.length; k += 2) {
-            x.vertex(polygon, at[k], at[k + 1]);
-        }
-    }
-
-    private static PlaneOverlay laid(int[] zero, int[] one) {
-        PlaneOverlay x = new PlaneOverlay();
-        put(x, 0, zero);
-        put(x, 1, one);
-        x.overlay();
-        return x;
-    }
-
-    private static void dueSizes(String what, PlaneOverlay x, int... want) {
-        for (int k = 0; k < want.length; k++) {
-            int size = k;
-            due(what + " size(" + size + ")", want[k], () -> x.size(size));
-        }
-    }
-
-    private static void duePoint(String what, PlaneOverlay x, int k, int... want) {
-        for (int n = 0; n < 3; n++) {
-            int asks = n;
-            due(what + " point(" + k + ", " + n + ")", want[n], () -> x.point(k, asks));
-        }
-    }
-
-    private static void duePiece(String what, PlaneOverlay x, int k, int... want) {
-        for (int n = 0; n < 8; n++) {
-            int asks = n;
-            due(what + " piece(" + k + ", " + n + ")", want[n], () -> x.piece(k, asks));
-        }
-    }
-
-    private static void dueBounds(String what, PlaneOverlay x, int result, int... want) {
-        due(what + " bounds(" + result + ")", want.length, () -> x.bounds(result));
-        for (int n = 0; n < want.length; n++) {
-            int k = n;
-            due(what + " bound(" + result + ", " + k + ")", want[k], () -> x.bound(result, k));
-        }
-        thrown(what + " bound behind the last", ELEMENT, () -> x.bound(result, want.length));
-        thrown(what + " bound -1", ELEMENT, () -> x.bound(result, -1));
-        thrown(what + " bound least", ELEMENT, () -> x.bound(result, LEAST));
-        thrown(what + " bound most", ELEMENT, () -> x.bound(result, MOST));
-    }
-
-    private static void dueAreas(String what, PlaneOverlay x, double... want) {
-        for (int k = 0; k < want.length; k++) {
-            int result = k;
-            due(what + " area(" + result + ")", want[k], () -> x.area(result));
-        }
-    }
-
+public final class PlaneOverlayTest extends OverlayTest {
     private static void testFace() {
         String[] due = {
             "int vertex(int,int,int) IllegalArgumentException IllegalStateException",
@@ -493,22 +392,19 @@ public final class PlaneOverlayTest {
     }
 
     public static void main(String[] args) {
-        testFace();
-        testPromise1();
-        testPromise2();
-        testPromise3();
-        testPromise4();
-        testPromise5();
-        testPromise6();
-        testPromise7();
-        testPromise8();
-        testPromise9();
-        testPromises10And11();
-        testPromise12();
-        testPromise13();
-        System.out.println(asked + " answers asked for, " + wrong + " not as due");
-        if (wrong != 0) {
-            System.exit(1);
-        }
+        test("The public face", PlaneOverlayTest::testFace);
+        test("Promise 1: A new object", PlaneOverlayTest::testPromise1);
+        test("Promise 2: vertex", PlaneOverlayTest::testPromise2);
+        test("Promise 3: clear", PlaneOverlayTest::testPromise3);
+        test("Promise 4: overlay", PlaneOverlayTest::testPromise4);
+        test("Promise 5: size", PlaneOverlayTest::testPromise5);
+        test("Promise 6: point", PlaneOverlayTest::testPromise6);
+        test("Promise 7: piece", PlaneOverlayTest::testPromise7);
+        test("Promise 8: common", PlaneOverlayTest::testPromise8);
+        test("Promise 9: shared", PlaneOverlayTest::testPromise9);
+        test("Promises 10 and 11: bounds, bound", PlaneOverlayTest::testPromises10And11);
+        test("Promise 12: where", PlaneOverlayTest::testPromise12);
+        test("Promise 13: area", PlaneOverlayTest::testPromise13);
+        end();
     }
 }
