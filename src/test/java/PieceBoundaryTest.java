@@ -67,17 +67,26 @@ public final class PieceBoundaryTest extends OverlayTest {
 
     private static void nextOverlayLeavesNothingOfTheOneBefore() {
         PlaneOverlay x = laid(WIDE, HIGH);
+        dueNext("a small one after a great one", x, TRIANGLE, NOTHING);
+        dueNext("one of no edge", x, NOTHING, NOTHING);
+        dueNext("the other polygon", x, NOTHING, TRIANGLE);
+        // Edges 0 and 2 cross in point 4, and then have nothing in common, when there is no point 4.
+        PlaneOverlay y = laid(new int[] {0, 0, 4, 4, 4, 0, 0, 4}, new int[] {-5, 0, -4, 0});
+        dueNext("edges that met before", y, SQUARE, NOTHING);
+        dueNext("a last point that was the last before", laid(new int[] {-1, 0, 0, 3, 4, 0}, NOTHING),
+                new int[] {0, 0, 0, 4, 4, 0}, NOTHING);
+        dueNext("edges that met before, in two parts", laid(WIDE, HIGH), SQUARE, new int[] {9, 9, 8, 9, 9, 8});
+    }
+
+    /** Lays other polygons over one another, on an object that had an overlay, as if it had had none. */
+    private static void dueNext(String what, PlaneOverlay x, int[] zero, int[] one) {
         x.clear(0);
         x.clear(1);
-        put(x, 0, TRIANGLE);
-        due("a small one after a great one", 3, x::overlay);
-        dueSame("a small one", everyAnswer(laid(TRIANGLE, NOTHING)), everyAnswer(x));
-        x.clear(0);
-        due("one of no edge after that", 0, x::overlay);
-        dueSame("one of no edge", everyAnswer(laid(NOTHING, NOTHING)), everyAnswer(x));
-        put(x, 1, TRIANGLE);
-        due("the other polygon after that", 3, x::overlay);
-        dueSame("the other polygon", everyAnswer(laid(NOTHING, TRIANGLE)), everyAnswer(x));
+        put(x, 0, zero);
+        put(x, 1, one);
+        PlaneOverlay fresh = laid(zero, one);
+        due(what + ", overlay", fresh.size(2), x::overlay);
+        dueSame(what, everyAnswer(fresh), everyAnswer(x));
     }
 
     private static void overlayMadeAgainIsTheSame() {
@@ -106,6 +115,9 @@ public final class PieceBoundaryTest extends OverlayTest {
         due("one in the other", 3, () -> laid(TRIANGLE, new int[] {1, 1, 2, 1, 1, 2}).size(3));
         due("one on a corner of the other", 3, () -> laid(TRIANGLE, new int[] {4, 0, 8, 0, 8, 4}).size(3));
         due("one on the other", 2, () -> laid(TRIANGLE, TRIANGLE).size(3));
+        // The triangle's first edge meets the other polygon only over its neighbours.
+        due("one over another's side", 4, () -> laid(new int[] {0, 0, 20, 0, 20, 9, 10, 9, 10, 1, 0, 1},
+                new int[] {25, 5, 25, 6, 15, 5}).size(3));
         due("a line that cuts one in two", 3, () -> laid(TRIANGLE, new int[] {1, -1, 1, 5}).size(3));
         due("a line that does not reach through", 2, () -> laid(TRIANGLE, new int[] {1, -1, 1, 1}).size(3));
     }

@@ -228,12 +228,18 @@ public final class ResultBoundaryTest extends OverlayTest {
                 23.977918023367163, 0.022081976632828876, 2.9779180233671645, 23.955836046734333);
         dueAreas("ten points more", laid(new int[] {-2, 0, -5, 5, -1, -2}, new int[] {1, 3, -3, 1, 3, 5}),
                 4.993010820597032, 0.006989179402972487, 0.9930108205970294, 4.986021641194057);
+        // Of what is so small only few digits are right, and the sum is due with the wrong ones too.
+        PlaneOverlay sliver = laid(new int[] {-29, -29, -30, 30, -29, -30}, new int[] {27, 30, -30, 29, 28, 30});
+        due("a sliver", 2.8698338790014016e-09, () -> sliver.area(1));
     }
 
     private static void areaTakesGreatProductsExactly() {
         // Products of coordinates here are some 20 thousand millions.
         dueAreas("far", laid(new int[] {-29, -30, -30, -28, 30, -29}, new int[] {30, -30, 29, 30, -29, -29}),
                 3571.418575207612, 86.581424792388, 32.41857520761197, 3484.837150415224);
+        // Products of divisors here are up to 46457015.
+        dueAreas("great divisors", laid(new int[] {-29, -28, -24, 29, 30, 30}, new int[] {29, -29, -29, 30, 28, -29}),
+                3117.5171008278635, 14.482899172136467, 3058.5171008278635, 3103.034201655727);
         dueAreas("full polygons", laid(new int[] {-30, 1, 30, -2, -29, 9, 29, -11, -28, 17, 27, 14},
                 new int[] {1, -30, -2, 30, 9, -29, -11, 29, 17, -28, 14, 27}),
                 1547.9720937215916, 196.2055811342487, 675.8832562936715, 1351.7665125873425);
